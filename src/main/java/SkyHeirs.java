@@ -863,7 +863,7 @@ public final class SkyHeirs {
 
         /** Only the dead, and those who were never told, are nowhere. */
         boolean alive(int person) {
-            return place(person) != NONE;
+            return at(cells, PLACE_AT + person) != NONE;
         }
 
         int manyAlive() {
