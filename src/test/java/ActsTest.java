@@ -59,6 +59,7 @@ public final class ActsTest {
         Due.is("no more", x.person(0, 6), -1);
         Due.is("still", x.person(3, 6), 2);
         Due.noSuch("wed(0, 6)", () -> x.wed(0, 6) ? 1 : 0);
+        Due.noSuch("wed(6, 0)", () -> x.wed(6, 0) ? 1 : 0);
         Due.noSuch("wed(-1, -1)", () -> x.wed(-1, -1) ? 1 : 0);
         Due.is("refused", x.count(11), 7);
     }

@@ -3,6 +3,7 @@ public final class ImageTest {
     public static void main(String[] args) {
         kept();
         another();
+        actsThatAreKept();
         rowsStay();
         Due.end("ImageTest");
     }
@@ -71,6 +72,43 @@ public final class ImageTest {
         Due.is("none is left", x.undo(), -1);
         Due.tell(x, "person 0 1 1 1 1;");
         Due.is("gone with the land", x.restore(), false);
+    }
+
+    /** Acts behind the image, on other places, must not show when those of the image are undone. */
+    private static void actsThatAreKept() {
+        SkyHeirs x = Due.of("person 0 1 1 1 1;");
+        for (int i = 0; i < 47; i++) {
+            x.go(0, i % 7);
+        }
+        x.image();
+        for (int i = 0; i < 25; i++) {
+            x.undo();
+        }
+        for (int i = 0; i < 36; i++) {
+            x.go(0, 9);
+        }
+        Due.is("restore", x.restore(), true);
+        for (int time = 0; time < 2; time++) {
+            for (int i = 45; i >= 6; i--) {
+                Due.is("left", x.undo(), i - 6);
+                Due.is("undone " + i, x.person(0, 1), i % 7);
+            }
+            Due.is("none is left", x.undo(), -1);
+            x.go(0, 8);
+            x.go(0, 9);
+            Due.is("restore once more", x.restore(), true);
+        }
+        for (int i = 0; i < 100; i++) {
+            x.go(0, 8);
+        }
+        Due.tell(x, "person 3 1 1 1 1;");
+        Due.is("a new land has no acts", x.undo(), -1);
+        x.go(0, 5);
+        x.image();
+        x.undo();
+        x.restore();
+        Due.is("undo", x.undo(), 0);
+        Due.is("as told", x.person(0, 1), 3);
     }
 
     private static void rowsStay() {

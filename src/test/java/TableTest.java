@@ -24,6 +24,7 @@ public final class TableTest {
         posts(x, -1, 2, 1, -1, 2);
         Due.noSuch("post(5)", () -> x.post(5));
         Due.noSuch("post(-1)", () -> x.post(-1));
+        Due.noSuch("post(32)", () -> x.post(32));
         Due.is("nobody moved", x.person(1, 1), 1);
         x.die(4);
         posts(x, -1, 2, 1, -1, 2);

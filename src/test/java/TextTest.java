@@ -14,6 +14,8 @@ public final class TextTest {
         secondOnes();
         expressions();
         firstFault();
+        fullTape();
+        landsBehindLands();
         Due.end("TextTest");
     }
 
@@ -230,6 +232,8 @@ public final class TextTest {
         Due.faultAt("law 1 and #foo;", 3);
         Due.faultAt("law (not #and);", 3);
         Due.faultAt("law #children;", 3);
+        Due.faultAt("law #z;", 3);
+        Due.faultAt("law #a;", 3);
         Due.fault("law 9999;", 0, -1);
         Due.faultAt("law 1 * #10000;", 2);
         Due.fault("law not not not not not not 1;", 0, -1);
@@ -252,5 +256,36 @@ public final class TextTest {
         Due.faultAt("person #10 1000 3 4 5 x", 2);
         Due.faultAt("front 3;#front 5000", 5);
         Due.faultAt(TWO + "will 0 #2 100;field", 3);
+    }
+
+    private static void fullTape() {
+        String people = "person 0 999 0 0 0;person 0 1 0 0 0;person 0 1 0 0 0;";
+        StringBuilder law = new StringBuilder("law(number=1)+(number=2)*(0");
+        while (people.length() + law.length() + 4 <= 700) {
+            law.append("+1");
+        }
+        String text = people + law + ");";
+        int share = (law.length() - "law(number=1)+(number=2)*(0".length()) / 2;
+        SkyHeirs x = Due.of(text);
+        Due.is("a share by a long law", x.heir(0, 2, 0), 999 * share / (share + 1));
+        Due.fault(";".repeat(700), 1, 0);
+        Due.fault("law " + "(1)+".repeat(174), 1, 700);
+        Due.fault("person 0 1 1 1 1" + " ".repeat(684), 1, 700);
+        Due.fault(" ".repeat(699) + "\n", 0, -1);
+    }
+
+    /** Nothing of a land is left in the next one. */
+    private static void landsBehindLands() {
+        SkyHeirs x = Due.of(TWO + ONE + "wed 0 1;will 0 2 5;will 2 1 5;field 1 1 1;field 2 1 1;front 5;law here;");
+        Due.is("land", Due.tell(x, TWO + ONE), 0);
+        int[] due = {3, 3, 0, 0, 0, 300, 0};
+        for (int what = 0; what < due.length; what++) {
+            Due.is("count(" + what + ")", x.count(what), due[what]);
+        }
+        Due.is("not wed", x.person(0, 6), -1);
+        Due.is("no will", x.heir(0, 2, 0), 0);
+        Due.is("no law", x.die(0), 0);
+        Due.is("land", Due.tell(x, TWO + "wed 0 1;will 0 1 5;field 1 1 1;front 5;law here;"), 0);
+        Due.is("by will", x.die(0), 1);
     }
 }
