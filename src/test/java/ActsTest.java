@@ -158,37 +158,48 @@ public final class ActsTest {
         Due.is("days without fields", new SkyHeirs().days(100), 0);
     }
 
-    private static void undoing() {
+    /** The land with so many of five acts, each of another kind. */
+    private static SkyHeirs acted(int many) {
         SkyHeirs x = Due.of(StateTest.LAND);
-        Due.is("none", x.undo(), -1);
-        Due.is("not counted", x.count(11), 0);
-        String[] shots = new String[6];
-        shots[0] = shot(x);
-        x.go(0, 4);
-        shots[1] = shot(x);
-        x.wed(2, 4);
-        shots[2] = shot(x);
-        x.die(0);
-        shots[3] = shot(x);
-        x.pawn(1, 2, 1, 5);
-        shots[4] = shot(x);
-        x.days(3);
-        shots[5] = shot(x);
+        if (many > 0) {
+            x.go(0, 4);
+        }
+        if (many > 1) {
+            x.wed(2, 4);
+        }
+        if (many > 2) {
+            x.die(0);
+        }
+        if (many > 3) {
+            x.pawn(1, 2, 1, 5);
+        }
+        if (many > 4) {
+            x.days(3);
+        }
+        return x;
+    }
+
+    private static void undoing() {
+        SkyHeirs x = acted(5);
         x.wed(1, 3);
+        x.wed(1, 2);
         x.go(2, 11);
         x.see(1, 1);
         for (int left = 5; left >= 0; left--) {
             Due.is("undo", x.undo(), left);
-            Due.is("as it was with " + left, shot(x), shots[left]);
+            Due.is("as it was with " + left, shot(x), shot(acted(left)));
         }
         Due.is("none is left", x.undo(), -1);
-        Due.is("status stays", x.count(11), 1);
+        Due.is("status stays", x.count(11), 2);
         Due.is("seen stays", x.count(8), 1);
-        x.die(4);
-        x.die(1);
-        x.undo();
-        x.undo();
-        Due.is("no noon", x.count(6), 0);
+        SkyHeirs y = Due.of(StateTest.LAND);
+        Due.is("none", y.undo(), -1);
+        Due.is("not counted", y.count(11), 0);
+        y.die(4);
+        y.die(1);
+        y.undo();
+        y.undo();
+        Due.is("no noon", y.count(6), 0);
     }
 
     private static void fortyActs() {
@@ -213,15 +224,16 @@ public final class ActsTest {
     /** All that an act may change. */
     static String shot(SkyHeirs x) {
         StringBuilder shot = new StringBuilder();
-        for (int person = 0; person < x.count(0); person++) {
-            for (int what = 0; what < 7; what++) {
+        int people = x.count(0);
+        for (int person = 0; person < people; person++) {
+            for (int what : new int[] {0, 1, 6}) {
                 shot.append(x.person(person, what)).append(' ');
             }
             for (int part = 0; part < 4; part++) {
                 shot.append(x.sky(person, part)).append(' ');
             }
         }
-        for (int field = 0; field < x.count(3); field++) {
+        for (int field = x.count(3) - 1; field >= 0; field--) {
             shot.append(x.field(field, 3)).append(' ').append(x.field(field, 4)).append(' ');
         }
         for (int place = 0; place < 10; place++) {

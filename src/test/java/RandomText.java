@@ -28,6 +28,34 @@ final class RandomText {
     }
 
     String text() {
+        return below(8) == 0 ? full() : any();
+    }
+
+    /** Twelve people, six couples, twelve wills, six fields: all that there may be of each. */
+    private String full() {
+        StringBuilder text = new StringBuilder();
+        for (int p = 0; p < 12; p++) {
+            int one = p > 1 ? below(p) : 0;
+            String rest = below(3) + sky() + ";";
+            switch (p > 1 ? below(3) : 0) {
+                case 0 -> text.append("person ").append(rest);
+                case 1 -> text.append("adopted ").append(one).append(' ').append(rest);
+                default -> text.append("child ").append(one).append(' ').append(one == 0 ? 1 : 0).append(' ').append(rest);
+            }
+        }
+        int shift = below(11);
+        for (int p = 0; p < 12; p++) {
+            text.append("will ").append(p).append(' ').append((p + 1 + shift) % 12).append(' ').append(1 + below(9)).append(';');
+        }
+        for (int p = 0; p < 6; p++) {
+            text.append("wed ").append(p).append(' ').append(6 + (p + shift) % 6).append(';');
+            text.append("field ").append(p).append(' ').append(below(40)).append(' ').append(below(40)).append(';');
+        }
+        String law = "law " + expr(2) + ";";
+        return text.length() + law.length() > 700 ? text.toString() : text.append(law).toString();
+    }
+
+    private String any() {
         List<String> lines = new ArrayList<>();
         int people = new int[] {0, 1, 2, 3, 4, 5, 5, 6, 6, 7, 7, 8, 12}[below(13)];
         int places = below(2) == 0 ? 3 : 10;

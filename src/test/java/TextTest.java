@@ -1,4 +1,4 @@
-/** Promises 1 to 4: a new object, feed, land, fault. */
+/** Promises 1 to 4: a new object, feed, land, fault. The bounds of a TEXT stand in TermsTest, GrammarTest and FaultsTest. */
 public final class TextTest {
     private static final String ONE = "person 1 2 3 4 5;";
     private static final String TWO = ONE + "person 1 2 3 4 5;";
@@ -8,14 +8,10 @@ public final class TextTest {
         feeding();
         landing();
         tokens();
-        lines();
-        tooMuch();
-        persons();
-        secondOnes();
         expressions();
-        firstFault();
         fullTape();
         landsBehindLands();
+        allAnew();
         Due.end("TextTest");
     }
 
@@ -136,78 +132,6 @@ public final class TextTest {
         Due.faultAt(ONE + "#\r", 1);
     }
 
-    private static void lines() {
-        Due.fault("person 0 0 0 0 0;person 9 999 999 999 999;", 0, -1);
-        Due.faultAt("person #10 2 3 4 5;", 2);
-        Due.faultAt("person 1 #1000 3 4 5;", 2);
-        Due.faultAt("person 1 2 3 4 #1000;", 2);
-        Due.faultAt("person 1 2 3 4 #00001;", 2);
-        Due.faultAt("person #99999999999999999999 2 3 4 5;", 2);
-        Due.fault(TWO + "child 0 1 9 1 2 3 4;adopted 2 0 9 9 9 9;", 0, -1);
-        Due.faultAt(TWO + "child 0 1 #10 1 2 3 4;", 2);
-        Due.faultAt(TWO + "adopted 0 1 1 #1000 3 4;", 2);
-        Due.faultAt(TWO + "child 0 #;", 1);
-        Due.fault(TWO + "will 0 1 1;will 1 0 99;", 0, -1);
-        Due.faultAt(TWO + "will 0 1 #0;", 2);
-        Due.faultAt(TWO + "will 0 1 #100;", 2);
-        Due.fault("field 0 0 0;field 9 9999 9999;", 0, -1);
-        Due.faultAt("field #10 0 0;", 2);
-        Due.faultAt("field 1 #10000 0;", 2);
-        Due.faultAt("field 1 0 #10000;", 2);
-        Due.faultAt("field 1 0#", 1);
-        Due.fault("front 1;", 0, -1);
-        Due.fault("front 3996;", 0, -1);
-        Due.faultAt("front #0;", 2);
-        Due.faultAt("front #3997;", 2);
-        Due.faultAt("front #law 1;", 1);
-    }
-
-    private static void tooMuch() {
-        Due.fault(ONE.repeat(12), 0, -1);
-        Due.faultAt(ONE.repeat(12) + "#person", 2);
-        Due.faultAt(ONE.repeat(12) + "#child", 2);
-        Due.faultAt(ONE.repeat(12) + "#adopted", 2);
-        StringBuilder wills = new StringBuilder(ONE.repeat(5));
-        for (int i = 0; i < 12; i++) {
-            int owner = i / 4;
-            int heir = i % 4 + (i % 4 >= owner ? 1 : 0);
-            wills.append("will ").append(owner).append(' ').append(heir).append(" 5;");
-        }
-        Due.fault(wills.toString(), 0, -1);
-        Due.faultAt(wills + "#will 3 3 5;", 2);
-        String fields = "field 0 1 1;field 1 1 1;field 2 1 1;field 3 1 1;field 4 1 1;field 5 1 1;";
-        Due.fault(fields, 0, -1);
-        Due.faultAt(fields + "#field 5 1 1;", 2);
-    }
-
-    private static void persons() {
-        Due.faultAt("child #0 1 1 1 1 1 1;", 3);
-        Due.faultAt(ONE + "child 0 #1 1 1 1 1 1;", 3);
-        Due.faultAt(ONE + "child 0 #0 1 1 1 1 1;", 4);
-        Due.faultAt(ONE + "child 0 #12345 1 1 1 1 1;", 2);
-        Due.faultAt(ONE + "adopted #1 1 1 1 1 1;", 3);
-        Due.faultAt(ONE + "wed #50 0;", 3);
-        Due.faultAt("wed #0 1;" + TWO, 3);
-        Due.faultAt(ONE + "wed 0 #0;", 4);
-        Due.faultAt(ONE + "wed 0 #1;", 3);
-        Due.faultAt(ONE + "wed 0 #12345;", 2);
-        Due.faultAt(ONE + "will 0 #0 1;", 4);
-        Due.faultAt(ONE + "will #1 0 1;", 3);
-        Due.faultAt(ONE + "will 0 #a 1;", 1);
-        Due.fault(TWO + ONE + "will 0 1 1;will 0 2 1;will 1 0 2;", 0, -1);
-        Due.faultAt(TWO + "will 0 1 1;will 0 #1 1;", 4);
-    }
-
-    private static void secondOnes() {
-        Due.faultAt("field 3 1 1;field #3 1 1;", 4);
-        Due.faultAt("front 3;#front 3;", 5);
-        Due.faultAt("law 3;#law 3;", 5);
-        Due.fault("law 3;front 3;", 0, -1);
-        Due.faultAt(TWO + ONE + "wed 0 1;wed #1 2;", 6);
-        Due.faultAt(TWO + ONE + "wed 0 1;wed 2 #0;", 6);
-        Due.faultAt(TWO + "wed 0 1;wed #0 1;", 6);
-    }
-
     private static void expressions() {
         Due.fault("law 1 or 2 and not 3 < 4 + 5 * 6;", 0, -1);
         Due.fault("law child+adopted-spouse*parent/sibling<number*here;", 0, -1);
@@ -252,12 +176,6 @@ public final class TextTest {
         Due.fault("law (1)+(2)+(3)+(4)+(5)+(6)+(7)+(8);", 0, -1);
     }
 
-    private static void firstFault() {
-        Due.faultAt("person #10 1000 3 4 5 x", 2);
-        Due.faultAt("front 3;#front 5000", 5);
-        Due.faultAt(TWO + "will 0 #2 100;field", 3);
-    }
-
     private static void fullTape() {
         String people = "person 0 999 0 0 0;person 0 1 0 0 0;person 0 1 0 0 0;";
         StringBuilder law = new StringBuilder("law(number=1)+(number=2)*(0");
@@ -287,5 +205,46 @@ public final class TextTest {
         Due.is("no law", x.die(0), 0);
         Due.is("land", Due.tell(x, TWO + "wed 0 1;will 0 1 5;field 1 1 1;front 5;law here;"), 0);
         Due.is("by will", x.die(0), 1);
+    }
+
+    /** Each thing that a land tells, told in another way by the next one. */
+    private static void allAnew() {
+        SkyHeirs x = Due.of(TWO + ONE + "law number = 1;");
+        Due.is("by the first law", x.heir(0, 1, 0), 2);
+        Due.is("land", Due.tell(x, TWO + ONE + "law number = 2;"), 0);
+        Due.is("by the second law", x.heir(0, 1, 0), 0);
+        Due.is("by the second law", x.heir(0, 2, 0), 2);
+        Due.is("land", Due.tell(x, TWO + "adopted 0 1 2 3 4 5;"), 0);
+        Due.is("without a law", x.heir(0, 1, 0), 0);
+        Due.is("without a law", x.heir(0, 2, 0), 2);
+        Due.is("land", Due.tell(x, TWO + "child 0 1 1 2 3 4 5;"), 0);
+        Due.is("not adopted", x.person(2, 5), 0);
+        Due.is("two parents", x.person(2, 2), 2);
+        Due.is("land", Due.tell(x, TWO + ONE), 0);
+        Due.is("no parents", x.person(2, 2), 0);
+        Due.is("nobody's child", x.kin(0, 2), -1);
+        String wills = ONE.repeat(12) + "will 0 1 1;will 1 11 2;will 2 3 3;will 10 11 4;will 11 0 5;will 11 10 6;";
+        Due.is("land", Due.tell(x, wills), 0);
+        Due.is("6 wills", x.count(2), 6);
+        Due.is("land", Due.tell(x, wills + "will 3 2 1;"), 0);
+        Due.is("7 wills", x.count(2), 7);
+        Due.is("land", Due.tell(x, ONE.repeat(12)), 0);
+        Due.is("no wills", x.count(2), 0);
+        for (int person = 0; person < 12; person++) {
+            Due.is("nobody inherits of " + person, x.die(person), 0);
+        }
+        Due.is("land", Due.tell(x, "field 1 7 7;field 2 8 8;" + ONE), 0);
+        x.days(3);
+        x.die(0);
+        Due.is("land", Due.tell(x, "field 2 9 9;field 1 5 5;" + ONE), 0);
+        int[] due = {2, 9, 9, 0, 0, 0};
+        for (int what = 0; what < 6; what++) {
+            Due.is("field(0, " + what + ")", x.field(0, what), due[what]);
+        }
+        Due.is("no noon", x.count(6), 0);
+        Due.is("one is alive", x.count(1), 1);
+        Due.is("one is there", x.weather(1, 5), 1);
+        Due.is("his sun", x.weather(1, 0), 2);
+        Due.is("sets of one", x.fits(0), 2);
     }
 }
