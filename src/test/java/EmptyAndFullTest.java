@@ -13,6 +13,7 @@ public final class EmptyAndFullTest {
         twelve();
         others();
         failingAll();
+        fewOfTwelve();
         Due.end("EmptyAndFullTest");
     }
 
@@ -251,5 +252,38 @@ public final class EmptyAndFullTest {
         x.undo();
         x.die(11);
         Due.is("one", x.failing(), 1);
+    }
+
+    /** Of twelve, all wed, six are alive: the searches know these six alone. */
+    private static void fewOfTwelve() {
+        StringBuilder text = new StringBuilder("person 9 3 0 0 0;".repeat(12) + "field 5 17 0;law 0;");
+        for (int couple = 0; couple < 6; couple++) {
+            text.append("wed ").append(couple).append(' ').append(couple + 6).append(';');
+        }
+        SkyHeirs x = Due.of(text.toString());
+        for (int person = 0; person < 5; person++) {
+            x.die(person);
+        }
+        Due.is("seven round a table", x.seatings(), 720);
+        for (int i = 0; i < 7; i++) {
+            Due.is("seat", x.seat(i), 5 + i);
+        }
+        x.die(5);
+        Due.is("six round a table", x.seatings(), 120);
+        Due.is("six are enough", x.arrange(), 1);
+        for (int person = 6; person < 12; person++) {
+            Due.is("post", x.post(person), 0);
+        }
+        Due.is("sets", x.fits(0), 64);
+        x.see(0, 9);
+        Due.is("three of six", x.fits(0), 20);
+        x.die(6);
+        Due.is("five are not", x.arrange(), 0);
+        Due.is("three of five", x.fits(0), 10);
+        Due.is("none leaves him anything", x.deaths(11, 0, 4), -1);
+        int[] there = {15 + 70, 0, 0, 0, 0, 5, 7};
+        for (int what = 0; what < 7; what++) {
+            Due.is("weather(9, " + what + ")", x.weather(9, what), there[what]);
+        }
     }
 }

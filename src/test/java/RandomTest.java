@@ -48,7 +48,7 @@ public final class RandomTest {
 
     private void run() {
         for (int i = 0; made < MOST_CALLS && same; i++) {
-            if (i == 0 || random.nextInt(60) == 0) {
+            if (i == 0 || random.nextInt(80) == 0) {
                 newText();
             } else {
                 step(random.nextInt(32));
@@ -284,6 +284,9 @@ public final class RandomTest {
         feedBoth(text);
         landBoth(text.length());
         everything();
+        for (int deaths = below(4); deaths > 0; deaths--) {
+            step(4);
+        }
     }
 
     private void wrongText() {

@@ -104,8 +104,9 @@ final class RandomText {
                 lines.add("field " + (i + shift) % places + " " + below(most) + " " + below(most) + ";");
             }
         }
-        if (below(2) == 0) {
-            lines.add(below(lines.size() + 1), "front " + (1 + below(below(2) == 0 ? 60 : 3996)) + ";");
+        if (below(4) != 0) {
+            int front = new int[] {10, 60, 600, 3996}[below(4)];
+            lines.add(below(lines.size() + 1), "front " + (1 + below(front)) + ";");
         }
         if (below(4) != 0) {
             lines.add(below(lines.size() + 1), "law " + expr(3) + ";");

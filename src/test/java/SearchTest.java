@@ -15,6 +15,7 @@ public final class SearchTest {
         arrangeRow();
         tables();
         besideEachOther();
+        eldestAlive();
         rowsByThemselves();
         Due.end("SearchTest");
     }
@@ -340,6 +341,26 @@ public final class SearchTest {
         z.pawn(3, 0, 0, 5);
         Due.is("all are a front of 0", z.seatings(), 0);
         Due.is("what is kept stays", z.seat(3), 4);
+    }
+
+    /** The first is the eldest of those alive; the last sits beside him, not beside a dead elder one. */
+    private static void eldestAlive() {
+        SkyHeirs x = Due.of("person 0 0 0 0 0;person 0 20 0 0 0;person 0 20 0 0 0;person 0 20 0 0 0;front 20;law 0;");
+        Due.is("0 is a front of all", x.seatings(), 0);
+        x.die(0);
+        Due.is("nobody else is", x.seatings(), 2);
+        Due.is("the eldest", x.seat(0), 1);
+        SkyHeirs y = Due.of("person 0 0 0 0 0;person 0 9 0 0 0;person 0 5 0 0 0;person 0 0 0 0 0;front 9;law 0;");
+        Due.is("1 beside 2 alone", y.seatings(), 0);
+        y.die(0);
+        Due.is("1 and 3 are a front", y.seatings(), 0);
+        SkyHeirs z = Due.of("person 0 9 0 0 0;person 0 1 0 0 0;person 0 5 0 0 0;person 0 5 0 0 0;person 0 10 0 0 0;front 9;law 0;");
+        z.die(0);
+        Due.is("1 and 4 across", z.seatings(), 2);
+        int[] due = {1, 2, 4, 3};
+        for (int i = 0; i < 4; i++) {
+            Due.is("seat(" + i + ")", z.seat(i), due[i]);
+        }
     }
 
     /** Each of the three rows is kept by itself, and only a new one of its own kind takes its place. */
