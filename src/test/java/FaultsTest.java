@@ -58,6 +58,8 @@ public final class FaultsTest {
         Due.faultAt(wills + "will 0 #1 99;", 4);
         Due.faultAt(wills + "will 2 #3 1;", 4);
         Due.faultAt(wills + "will 2 #0003 1;", 4);
+        Due.faultAt(FOUR + "will 0 1 1;will 0 #1 1;", 4);
+        Due.faultAt(FOUR + "will 3 0 99;will 3 #0 1;", 4);
         Due.fault(wills + "will 1 0 5;will 3 2 6;will 0 2 1;will 0 3 1;will 2 1 1;will 1 3 1;", 0, -1);
         Due.faultAt(wills + "will 0 3 1;will 0 2 1;will 2 0 1;will 0 #1 1;", 4);
     }
