@@ -1,75 +1,93 @@
+import java.io.IOException;
 import java.lang.reflect.Constructor;
+import java.lang.reflect.Executable;
 import java.lang.reflect.Field;
 import java.lang.reflect.Method;
 import java.lang.reflect.Modifier;
+import java.lang.reflect.Parameter;
+import java.nio.file.Files;
+import java.nio.file.Path;
 import java.util.Arrays;
 import java.util.Set;
 import java.util.TreeSet;
+import java.util.stream.Collectors;
 
-/** The document's public face, and rule 1 of LANGUAGE.md: these members and no others can be seen from outside. */
+/** The public face is the document's, line by line, and rule 1 of LANGUAGE.md: no other member can be seen from outside. */
 public final class FaceTest {
-    private static final String NO_SUCH = " throws NoSuchElementException";
-    private static final String BOTH = " throws NoSuchElementException, IllegalArgumentException";
-    private static final String[] METHODS = {
-        "int feed(int, int, int, int, int)", "int land(int) throws IllegalArgumentException", "int fault()",
-        "int count(int)" + NO_SUCH, "int person(int, int)" + NO_SUCH, "int sky(int, int)" + NO_SUCH,
-        "int weather(int, int)" + NO_SUCH, "int field(int, int)" + NO_SUCH, "int front(int, int)" + BOTH,
-        "int kin(int, int)" + NO_SUCH, "int go(int, int)" + NO_SUCH, "boolean wed(int, int)" + NO_SUCH,
-        "int die(int)" + NO_SUCH, "int pawn(int, int, int, int)" + NO_SUCH, "int days(int)", "int undo()",
-        "int heir(int, int, int)" + BOTH, "int failing()", "int contested(int)" + NO_SUCH, "int deaths(int, int, int)" + BOTH,
-        "int death(int)" + NO_SUCH, "int arrange()", "int post(int)" + NO_SUCH, "int seatings()", "int seat(int)" + NO_SUCH,
-        "int see(int, int)" + NO_SUCH, "int forget()", "int fits(int)" + NO_SUCH, "int suitors(int, int, int)" + BOTH,
-        "int century(int, int, int)" + BOTH, "void image()", "boolean restore()"};
+    private static final Path DOCUMENT = Path.of("../shared/DOC.md");
+    private static final int METHODS = 32;
 
-    public static void main(String[] args) {
-        Due.is("the class", Modifier.toString(SkyHeirs.class.getModifiers()), "public final");
-        methods();
-        constructors();
-        fields();
+    public static void main(String[] args) throws IOException {
+        face();
+        names();
         inside();
         Due.end("FaceTest");
     }
 
-    private static String names(Class<?>[] types) {
-        return String.join(", ", Arrays.stream(types).map(Class::getSimpleName).toList());
+    private static void face() throws IOException {
+        String document = Files.readString(DOCUMENT);
+        int start = document.indexOf("```java\n", document.indexOf("## The public face")) + 8;
+        Set<String> due = new TreeSet<>();
+        document.substring(start, document.indexOf("```", start)).lines().map(String::strip)
+                .filter(line -> line.startsWith("public ")).forEach(due::add);
+        Due.is("lines of the face: the class, the constant, the constructor, the methods", due.size(), 3 + METHODS);
+        Due.is("the face", String.join("\n", seen()), String.join("\n", due));
+        Due.is("NONE", SkyHeirs.NONE, -1);
     }
 
-    private static void methods() {
+    /** All that isn't private, told as the document tells it; the names of parameters come by javac's -parameters. */
+    private static Set<String> seen() {
         Set<String> seen = new TreeSet<>();
+        seen.add(Modifier.toString(SkyHeirs.class.getModifiers()) + " class SkyHeirs {");
+        for (Field f : SkyHeirs.class.getDeclaredFields()) {
+            if (!Modifier.isPrivate(f.getModifiers())) {
+                seen.add(Modifier.toString(f.getModifiers()) + " " + f.getType() + " " + f.getName() + " = " + valueOf(f) + ";");
+            }
+        }
+        for (Constructor<?> c : SkyHeirs.class.getDeclaredConstructors()) {
+            seen.add(Modifier.toString(c.getModifiers()) + " " + c.getDeclaringClass().getSimpleName() + rest(c));
+        }
+        for (Method m : SkyHeirs.class.getDeclaredMethods()) {
+            if (!Modifier.isPrivate(m.getModifiers())) {
+                seen.add(Modifier.toString(m.getModifiers()) + " " + m.getReturnType() + " " + m.getName() + rest(m));
+            }
+        }
+        return seen;
+    }
+
+    private static String valueOf(Field f) {
+        try {
+            return String.valueOf(f.get(null));
+        } catch (IllegalAccessException | NullPointerException e) {
+            return e.toString();
+        }
+    }
+
+    private static String rest(Executable e) {
+        String parameters = Arrays.stream(e.getParameters()).map(FaceTest::told).collect(Collectors.joining(", ", "(", ")"));
+        String thrown = Arrays.stream(e.getExceptionTypes()).map(Class::getSimpleName).collect(Collectors.joining(", "));
+        return parameters + (thrown.isEmpty() ? ";" : " throws " + thrown + ";");
+    }
+
+    private static String told(Parameter p) {
+        return p.getType() + " " + p.getName();
+    }
+
+    /** No private method bears the name of a public one, here or in a class inside, and nothing is inherited. */
+    private static void names() {
         Set<String> open = new TreeSet<>();
         Set<String> hidden = new TreeSet<>();
         for (Method m : SkyHeirs.class.getDeclaredMethods()) {
-            if (Modifier.isPrivate(m.getModifiers())) {
-                hidden.add(m.getName());
-            } else {
-                String thrown = names(m.getExceptionTypes());
-                String told = m.getReturnType() + " " + m.getName() + "(" + names(m.getParameterTypes()) + ")";
-                seen.add(told + (thrown.isEmpty() ? "" : " throws " + thrown));
-                open.add(m.getName());
-                Due.is(m.getName(), Modifier.toString(m.getModifiers()), "public");
-            }
+            (Modifier.isPrivate(m.getModifiers()) ? hidden : open).add(m.getName());
         }
-        Due.is("the methods", seen.toString(), new TreeSet<>(Arrays.asList(METHODS)).toString());
+        for (Class<?> inner : SkyHeirs.class.getDeclaredClasses()) {
+            Arrays.stream(inner.getDeclaredMethods()).filter(m -> Modifier.isPrivate(m.getModifiers()))
+                    .forEach(m -> hidden.add(m.getName()));
+        }
         hidden.retainAll(open);
         Due.is("private ones of the same name", hidden.toString(), "[]");
-    }
-
-    private static void constructors() {
-        Constructor<?>[] all = SkyHeirs.class.getDeclaredConstructors();
-        Due.is("constructors", all.length, 1);
-        Due.is("public", Modifier.isPublic(all[0].getModifiers()), true);
-        Due.is("without arguments", all[0].getParameterCount(), 0);
-    }
-
-    private static void fields() {
-        Set<String> open = new TreeSet<>();
-        for (Field f : SkyHeirs.class.getDeclaredFields()) {
-            if (!Modifier.isPrivate(f.getModifiers())) {
-                open.add(Modifier.toString(f.getModifiers()) + " " + f.getType() + " " + f.getName());
-            }
-        }
-        Due.is("the constants", open.toString(), "[public static final int NONE]");
-        Due.is("NONE", SkyHeirs.NONE, -1);
+        Due.is("what it extends", SkyHeirs.class.getSuperclass().getName(), "java.lang.Object");
+        Due.is("what it implements", SkyHeirs.class.getInterfaces().length, 0);
     }
 
     private static void inside() {
